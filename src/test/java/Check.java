@@ -1,3 +1,5 @@
+import java.util.List;
+
 /** Counts and prints the answers that are not as due. */
 final class Check {
     private final String subject;
@@ -21,6 +23,16 @@ final class Check {
         if (!isSo) {
             wrong++;
             System.out.println(subject + ": it does not hold that " + claim);
+        }
+    }
+
+    void same(String when, List<String> got, List<String> want) {
+        for (int k = 0; k < want.size(); k++) {
+            checked++;
+            if (!got.get(k).equals(want.get(k))) {
+                wrong++;
+                System.out.println(subject + ": " + when + ": " + got.get(k) + ", due is " + want.get(k));
+            }
         }
     }
 
